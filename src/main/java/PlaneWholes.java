@@ -583,7 +583,7 @@ public final class PlaneWholes {
         }
 
         /** x by its part y. */
-        long exact(long x, long y) {
+        long dividedBy(long x, long y) {
             long size = sizeOf(y);
             return number(ratio(acrossA(x, y), size), ratio(acrossB(x, y), size));
         }
@@ -714,7 +714,7 @@ public final class PlaneWholes {
                 return;
             }
             long shaped = net.shape(prime);
-            left = net.exact(left, shaped);
+            left = net.dividedBy(left, shaped);
             int place = count;
             while (place > 0 && isAhead(shaped, primes[place - 1])) {
                 primes[place] = primes[place - 1];
@@ -863,7 +863,7 @@ public final class PlaneWholes {
         }
 
         private long after(long x) {
-            return net.exact(Net.less(x, Net.number(lastDigit(x), 0)), base);
+            return net.dividedBy(Net.less(x, Net.number(lastDigit(x), 0)), base);
         }
 
         /** Finds tail and round; 0 stays 0, a ring of one that does not count as a round. */
@@ -1061,9 +1061,7 @@ public final class PlaneWholes {
         // Once g and h are as short as can be, no other sum of them is as short as g.
         private static int countShortest(Net net, long g, long h) {
             long least = net.sizeOf(g);
-            int count = 0;
-            count += net.sizeOf(g) == least ? 2 : 0;
-            count += net.sizeOf(h) == least ? 2 : 0;
+            int count = net.sizeOf(h) == least ? 4 : 2;
             count += net.sizeOf(Net.plus(g, h)) == least ? 2 : 0;
             count += net.sizeOf(Net.less(g, h)) == least ? 2 : 0;
             return count;

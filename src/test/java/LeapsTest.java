@@ -97,7 +97,11 @@ public final class LeapsTest {
         }
         x.set(0, 30, 30);
         CHECK.due("the corner", x.leaps(1, 0), 60);
-        for (int[] beyond : new int[][] {{31, 0}, {-31, 0}, {0, 31}, {0, -31}, {20000, 20000}}) {
+        for (int[] edge : new int[][] {{-30, 0, 30}, {0, -30, 30}, {-30, -30, 60}, {30, -30, 60}, {-30, 29, 59}}) {
+            x.set(0, edge[0], edge[1]);
+            CHECK.due("the edge", x.leaps(1, 0), edge[2]);
+        }
+        for (int[] beyond : new int[][] {{31, 0}, {-31, 0}, {0, 31}, {0, -31}, {64, 0}, {-64, 5}, {64, 30}, {128, -30}, {20000, 20000}}) {
             x.set(0, beyond[0], beyond[1]);
             CHECK.due("beyond", x.leaps(1, 0), -4);
         }

@@ -16,6 +16,7 @@ public final class RestsTest {
             farOrders(kind);
             farRoots(kind);
         }
+        sizesAtTheEnds();
         edges();
         CHECK.end();
     }
@@ -167,6 +168,36 @@ public final class RestsTest {
         CHECK.due("by 20", x.roots(0, 1) >= 0 ? 1 : 0, 1);
         x.set(1, 21, 0);
         CHECK.due("by 21", x.roots(0, 1), -2);
+    }
+
+    /** In every kind the greatest size that is taken and the least beyond it that a number has. */
+    private static void sizesAtTheEnds() {
+        int exact = 0;
+        for (int kind = 0; kind < 5; kind++) {
+            Plain plain = new Plain(kind);
+            PlaneWholes x = of(kind);
+            x.set(0, 3, 1);
+            for (int a = -400; a <= 400; a++) {
+                for (int b = 0; b <= 400; b++) {
+                    long size = plain.size(new Plain.Num(a, b));
+                    x.set(1, a, b);
+                    if (size >= 99999 && size <= 100002) {
+                        exact += size == 100000 ? 1 : 0;
+                        String told = "kind " + kind + " of size " + size;
+                        CHECK.due(told, x.single(1) == -2 ? 1 : 0, size > 100000 ? 1 : 0);
+                        CHECK.due(told, x.order(0, 1) == -2 ? 1 : 0, size > 100000 ? 1 : 0);
+                        CHECK.due(told, x.power(2, 0, 3, 1) == -2 ? 1 : 0, size > 100000 ? 1 : 0);
+                        CHECK.due(told, x.inverse(2, 0, 1) == -2 ? 1 : 0, size > 100000 ? 1 : 0);
+                    }
+                    if (size >= 399 && size <= 403) {
+                        String told = "kind " + kind + " of size " + size;
+                        CHECK.due(told, x.roots(0, 1) == -2 ? 1 : 0, size > 400 ? 1 : 0);
+                        CHECK.due(told, x.root(2, 0, 1, 0) == -2 ? 1 : 0, size > 400 ? 1 : 0);
+                    }
+                }
+            }
+        }
+        CHECK.due("numbers of just the greatest size", exact > 0 ? 1 : 0, 1);
     }
 
     private static void edges() {
