@@ -35,7 +35,7 @@ public final class PlaneWholes {
         registers = new long[REGISTERS];
         making = new Making(net);
         factors = new Factors(net);
-        residues = new Residues(net, making, factors);
+        residues = new Residues(net, making);
         numerals = new Numerals(net);
         flock = new Flock();
         other = new Flock();
@@ -187,7 +187,8 @@ public final class PlaneWholes {
         if (!isOfSize(registers[m], GREATEST_BY)) {
             return NO;
         }
-        return residues.leastOrder(registers[r], registers[m]);
+        factors.find(registers[m]);
+        return residues.leastOrder(registers[r], registers[m], factors.singles());
     }
 
     public int inverse(int to, int r, int m) {
@@ -747,13 +748,11 @@ public final class PlaneWholes {
 
         private final Net net;
         private final Making making;
-        private final Factors factors;
         private long found;
 
-        Residues(Net net, Making making, Factors factors) {
+        Residues(Net net, Making making) {
             this.net = net;
             this.making = making;
-            this.factors = factors;
         }
 
         long raised(long x, int k, long m) {
@@ -769,14 +768,13 @@ public final class PlaneWholes {
         }
 
         /** The order is what stays of the number of single rests once every prime that can go has gone. */
-        int leastOrder(long x, long m) {
+        int leastOrder(long x, long m, int singles) {
             if (net.sizeOf(net.common(x, m)) != 1) {
                 return NONE;
             }
-            factors.find(m);
             long one = net.rest(Net.ONE, m);
-            int order = factors.singles();
-            int left = order;
+            int order = singles;
+            int left = singles;
             for (int d = 2; d <= left; d++) {
                 while (left > 1 && left % d == 0) {
                     left /= d;
