@@ -2,7 +2,7 @@ import java.util.HashSet;
 import java.util.List;
 import java.util.Map;
 
-/** The edges that the document names for promises 20 to 22, a test for each sentence; what is due is told by hand. */
+/** The edges that the document names for promises 20 to 22, a test for each sentence; what is due is told by hand or by Plain. */
 public final class DigitEdgesTest {
     private static final Check CHECK = new Check();
     private static final int BAD = -1, NO = -2;

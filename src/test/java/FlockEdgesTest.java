@@ -1,4 +1,4 @@
-/** The edges that the document names for promises 23 to 27, a test for each sentence; what is due is told by hand. */
+/** The edges that the document names for promises 23 to 27, a test for each sentence; what is due is told by hand or by Plain. */
 public final class FlockEdgesTest {
     private static final Check CHECK = new Check();
     private static final int BAD = -1, NO = -2, NONE = -4;

@@ -1,4 +1,4 @@
-/** The edges that the document names for promises 28 and 29, a test for each sentence; what is due is told by hand. */
+/** The edges that the document names for promises 28 and 29, a test for each sentence; what is due is told by hand or by Plain. */
 public final class LeapEdgesTest {
     private static final Check CHECK = new Check();
     private static final int BAD = -1, NO = -2, NONE = -4;

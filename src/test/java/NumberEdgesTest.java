@@ -1,4 +1,4 @@
-/** The edges that the document names for promises 1 to 9, a test for each sentence; what is due is told by hand. */
+/** The edges that the document names for promises 1 to 9, a test for each sentence; what is due is told by hand or by Plain. */
 public final class NumberEdgesTest {
     private static final Check CHECK = new Check();
     private static final int BAD = -1, NO = -2, FULL = -3;
